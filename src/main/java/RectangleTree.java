@@ -1151,7 +1151,7 @@ public final class RectangleTree {
         int count = 0;
 
         History() {
-            for (int i = 0; i < MOST_STATES; i++) {
+            for (int i = 0; i < states.length; i++) {
                 states[i] = new Tree();
             }
         }
@@ -1168,11 +1168,12 @@ public final class RectangleTree {
         }
 
         private void dropOldest() {
-            Tree oldest = states[0];
-            for (int i = 1; i < MOST_STATES; i++) {
+            // The oldest state moves up to the free end, where its rows are used again.
+            for (int i = 1; i < states.length; i++) {
+                Tree oldest = states[i - 1];
                 states[i - 1] = states[i];
+                states[i] = oldest;
             }
-            states[MOST_STATES - 1] = oldest;
             count = MOST_STATES - 1;
         }
 
