@@ -27,9 +27,13 @@ public final class RectangleTree {
     private static final int FIRST_NODE = MOST_BOXES;
     /** A list has one place more than the capacity, because a node overflows with its new entry in it. */
     private static final int MOST_ENTRIES = MOST_CAPACITY + 1;
-    private static final int FIRST_ROOM = FIRST_NODE + 48;
-    /** The document sets no bound for the number of nodes; no run of 512 calls comes near this one. */
-    private static final int MOST_ROOM = 8192;
+    /**
+     * A node is split with four entries or more, and each other node of its level has one or more: so behind a split a
+     * level has two nodes fewer than there are items one level lower. That is 22 leaves at most, then 20, 18, .., 2
+     * nodes, and the root at the level 11.
+     */
+    private static final int MOST_NODES = 133;
+    private static final int ITEMS = FIRST_NODE + MOST_NODES;
     /** The bound of loops whose end the document does not tell in numbers. */
     private static final int MANY = 1_000_000;
 
@@ -398,11 +402,11 @@ public final class RectangleTree {
      * A row has one, four (corners) or six (lists) places for each item.
      */
     private static final class Tree {
-        private int[] levels = new int[FIRST_ROOM];
-        private int[] holders = new int[FIRST_ROOM];
-        private int[] sizes = new int[FIRST_ROOM];
-        private int[] corners = new int[FIRST_ROOM * SIDES];
-        private int[] lists = new int[FIRST_ROOM * MOST_ENTRIES];
+        private final int[] levels = new int[ITEMS];
+        private final int[] holders = new int[ITEMS];
+        private final int[] sizes = new int[ITEMS];
+        private final int[] corners = new int[ITEMS * SIDES];
+        private final int[] lists = new int[ITEMS * MOST_ENTRIES];
         int root = FIRST_NODE;
         int capacity = FIRST_CAPACITY;
         int reinsert = 1;
@@ -416,10 +420,6 @@ public final class RectangleTree {
         }
 
         void copyFrom(Tree other) {
-            makeRoom(other.room());
-            for (int item = other.room(); item < room(); item++) {
-                put(levels, item, FREE);
-            }
             copyRow(other.levels, levels);
             copyRow(other.holders, holders);
             copyRow(other.sizes, sizes);
@@ -434,25 +434,6 @@ public final class RectangleTree {
 
         private static void copyRow(int[] from, int[] to) {
             System.arraycopy(from, 0, to, 0, Math.min(from.length, to.length));
-        }
-
-        int room() {
-            return levels.length;
-        }
-
-        private void makeRoom(int wanted) {
-            int old = room();
-            if (wanted <= old || wanted > MOST_ROOM) {
-                return;
-            }
-            levels = Arrays.copyOf(levels, wanted);
-            holders = Arrays.copyOf(holders, wanted);
-            sizes = Arrays.copyOf(sizes, wanted);
-            corners = Arrays.copyOf(corners, wanted * SIDES);
-            lists = Arrays.copyOf(lists, wanted * MOST_ENTRIES);
-            for (int item = old; item < wanted; item++) {
-                put(levels, item, FREE);
-            }
         }
 
         int levelOf(int item) {
@@ -510,13 +491,11 @@ public final class RectangleTree {
 
         /** Makes a node without entries, in no list yet. */
         int newNode(int level) {
-            int node = firstFree(FIRST_NODE, room());
-            if (node == NOTHING) {
-                node = room();
-                makeRoom(2 * room());
+            int node = firstFree(FIRST_NODE, ITEMS);
+            if (node != NOTHING) {
+                take(node, level);
             }
-            take(node, level);
-            return node < room() ? node : NOTHING;
+            return node;
         }
 
         private int firstFree(int from, int to) {
@@ -548,7 +527,7 @@ public final class RectangleTree {
         }
 
         void releaseNodes() {
-            for (int item = FIRST_NODE; item < room(); item++) {
+            for (int item = FIRST_NODE; item < ITEMS; item++) {
                 release(item);
             }
         }
@@ -702,12 +681,11 @@ public final class RectangleTree {
 
     /** The nodes, or the boxes, at and below one item, in preorder. */
     private static final class Walk {
-        int[] items = new int[FIRST_ROOM];
+        final int[] items = new int[ITEMS];
         int count = 0;
-        private int[] pending = new int[FIRST_ROOM];
+        private final int[] pending = new int[ITEMS];
 
         void gather(Tree tree, int top, boolean nodes) {
-            makeRoom(tree.room());
             count = 0;
             put(pending, 0, top);
             int waiting = 1;
@@ -732,13 +710,6 @@ public final class RectangleTree {
                 }
             }
             return NOTHING;
-        }
-
-        private void makeRoom(int wanted) {
-            if (wanted > items.length && wanted <= MOST_ROOM) {
-                items = new int[wanted];
-                pending = new int[wanted];
-            }
         }
     }
 
