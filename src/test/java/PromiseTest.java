@@ -1,12 +1,5 @@
 /** Each promise by itself: ordinary inputs, the edges that the document names, and wrong inputs. */
-public final class PromiseTest {
-    private static final int LOW = Integer.MIN_VALUE;
-    private static final int HIGH = Integer.MAX_VALUE;
-    private static final Check CHECK = new Check();
-    private static final int[][] BAD_RECTANGLES = {
-        {-1, 0, 5, 5}, {0, -1, 5, 5}, {6, 0, 5, 5}, {0, 6, 5, 5}, {0, 0, 100, 5}, {0, 0, 5, 100}, {100, 0, 100, 5},
-        {0, 100, 5, 100}, {LOW, 0, HIGH, 5}, {0, LOW, 5, HIGH}, {HIGH, HIGH, HIGH, HIGH}, {LOW, LOW, LOW, LOW}};
-
+public final class PromiseTest extends Trees {
     private PromiseTest() {
     }
 
@@ -45,67 +38,7 @@ public final class PromiseTest {
         nearest();
         areaAndOverlap();
         fill();
-        CHECK.end("PromiseTest");
-    }
-
-    private static void due(String what, double got, double want) {
-        CHECK.due(what, got, want);
-    }
-
-    private static RectangleTree with(int capacity, int reinsert, int[]... boxes) {
-        RectangleTree tree = new RectangleTree();
-        tree.setSetting(RectangleTree.CAPACITY, capacity);
-        tree.setSetting(RectangleTree.REINSERT, reinsert);
-        add(tree, boxes);
-        return tree;
-    }
-
-    private static void add(RectangleTree tree, int[]... boxes) {
-        for (int[] b : boxes) {
-            tree.insert(b[0], b[1], b[2], b[3]);
-        }
-    }
-
-    private static int[] box(int x1, int y1, int x2, int y2) {
-        return new int[] {x1, y1, x2, y2};
-    }
-
-    private static int[] at(int x, int y) {
-        return box(x, y, x, y);
-    }
-
-    private static int[][] onLine(int... xs) {
-        int[][] all = new int[xs.length][];
-        for (int i = 0; i < xs.length; i++) {
-            all[i] = at(xs[i], 0);
-        }
-        return all;
-    }
-
-    private static void write(RectangleTree tree, String text) {
-        for (int i = 0; i < text.length(); i++) {
-            tree.append(text.charAt(i));
-        }
-    }
-
-    /** The tree as a text: a node in brackets, and the boxes in a leaf by their numbers. */
-    private static String shape(RectangleTree tree, int node) {
-        StringBuilder text = new StringBuilder("(");
-        for (int place = 0; place < tree.entries(node); place++) {
-            int entry = tree.entry(node, place);
-            text.append(place == 0 ? "" : " ");
-            text.append(tree.level(node) == 0 ? Integer.toString(entry) : shape(tree, entry));
-        }
-        return text.append(")").toString();
-    }
-
-    private static void shapeDue(String what, RectangleTree tree, String want) {
-        String got = shape(tree, 0);
-        if (got.equals(want)) {
-            due(what, 0, 0);
-        } else {
-            due(what + ": the tree " + got + " instead of " + want + ", which", 0, 1);
-        }
+        end("PromiseTest");
     }
 
     // ---- promise 1
