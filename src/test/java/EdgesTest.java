@@ -681,6 +681,8 @@ public final class EdgesTest extends Trees {
         due("29 the root", tree.area(1), 61 * 71);
         tree = packed(3, 3, 0, box(40, 0, 90, 50), box(40, 0, 90, 50), box(40, 0, 90, 50), box(5, 45, 41, 99));
         due("30 2 columns and 6 rows", tree.overlap(0), 12);
+        tree = packed(3, 3, 0, box(40, 30, 90, 50), box(40, 30, 90, 50), box(40, 30, 90, 50), box(5, 10, 60, 99));
+        due("30 21 columns and 21 rows", tree.overlap(0), 21 * 21);
         tree = packed(3, 3, 0, box(10, 20, 30, 60), box(10, 20, 30, 60), box(10, 20, 30, 60), box(15, 30, 20, 99));
         due("30 one through the other", tree.overlap(0), 6 * 31);
         tree = packed(3, 3, 0, box(0, 0, 9, 9), box(0, 0, 9, 9), box(0, 0, 9, 9), box(9, 9, 20, 20));
